@@ -46,8 +46,6 @@ public final class FrameRound {
     private static final int EMPTY_WINDOW = 8;
     private static final int NO_FIT = 16;
 
-    private final byte[] tape;
-    private int tapeBytes;
     private final Reader reader;
     /** The PLAN; without one it has no modes. */
     private Plan plan;
@@ -64,8 +62,7 @@ public final class FrameRound {
     private int place;
 
     public FrameRound() {
-        tape = new byte[TAPE_ROOM];
-        reader = new Reader(tape);
+        reader = new Reader();
         plan = new Plan();
         tables = new Table[MODE_ROOM];
         for (int m = 0; m < MODE_ROOM; m++) {
@@ -81,22 +78,21 @@ public final class FrameRound {
     // ---- the plan
 
     public int feed(int a, int b, int c, int d, int e) {
-        if (tapeBytes > TAPE_ROOM - FEED_BYTES) {
+        if (reader.bytes > TAPE_ROOM - FEED_BYTES) {
             return NONE;
         }
-        append(a);
-        append(b);
-        append(c);
-        append(d);
-        append(e);
-        return tapeBytes;
+        reader.append(a);
+        reader.append(b);
+        reader.append(c);
+        reader.append(d);
+        reader.append(e);
+        return reader.bytes;
     }
 
     public int plan(int n) {
-        if (n < 0 || n > tapeBytes) {
+        if (n < 0 || n > reader.bytes) {
             return refused(BAD_NUMBER);
         }
-        tapeBytes = 0;
         fault = reader.read(n);
         if (fault != 0) {
             place = reader.place;
@@ -118,15 +114,6 @@ public final class FrameRound {
 
     public int where() {
         return trouble == FAULTY ? place : NONE;
-    }
-
-    private void append(int number) {
-        for (int shift = 24; shift >= 0; shift -= 8) {
-            if (tapeBytes < TAPE_ROOM) {
-                tape[tapeBytes] = (byte) (number >>> shift);
-                tapeBytes++;
-            }
-        }
     }
 
     private int refused(int number) {
@@ -844,7 +831,7 @@ public final class FrameRound {
             case 2:
                 return plan.allJobs();
             case 3:
-                return tapeBytes;
+                return reader.bytes;
             case 4:
                 return isKept ? 1 : 0;
             default:
@@ -988,7 +975,7 @@ public final class FrameRound {
         }
     }
 
-    /** Reads the text of a PLAN, up to its first FAULT. */
+    /** THE TAPE, and what reads the text of a PLAN on it, up to its first FAULT. */
     private static final class Reader {
         private static final int FORM = 1;
         private static final int BOUNDS = 2;
@@ -1005,7 +992,9 @@ public final class FrameRound {
         private static final int LONGEST_WORD = 7;
         private static final int LONGEST_WHOLE = 3;
 
-        private final byte[] text;
+        private final byte[] tape;
+        int bytes;
+        /** How many bytes the text has. */
         private int length;
         private int at;
         private int kind;
@@ -1016,14 +1005,24 @@ public final class FrameRound {
         /** Apart from the PLAN, which stays if the text has a FAULT. */
         Plan draft;
 
-        Reader(byte[] tape) {
-            text = tape;
+        Reader() {
+            tape = new byte[TAPE_ROOM];
             draft = new Plan();
         }
 
-        /** The FAULT, whose place is kept, or 0. */
+        void append(int four) {
+            for (int shift = 24; shift >= 0; shift -= 8) {
+                if (bytes < TAPE_ROOM) {
+                    tape[bytes] = (byte) (four >>> shift);
+                    bytes++;
+                }
+            }
+        }
+
+        /** The FAULT, whose place is kept, or 0; THE TAPE is empty then. */
         int read(int n) {
-            length = Math.min(n, text.length);
+            length = Math.min(n, bytes);
+            bytes = 0;
             at = 0;
             draft.modes = 0;
             fault = 0;
@@ -1135,7 +1134,7 @@ public final class FrameRound {
         }
 
         private int signAt(int i) {
-            return i >= 0 && i < length ? text[i] & 255 : 0;
+            return i >= 0 && i < length ? tape[i] & 255 : 0;
         }
 
         private void next() {
