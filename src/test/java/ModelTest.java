@@ -3,7 +3,10 @@ import java.util.List;
 import java.util.NoSuchElementException;
 import java.util.Random;
 
-/** Long runs of calls, drawn by fixed seeds, with the Model's answers as those that are due. */
+/**
+ * Long runs of calls, drawn by fixed seeds, with the Model's answers as those that are due. They go
+ * beyond the 512 calls that are promised for an object: nothing in the class counts calls.
+ */
 public final class ModelTest {
     private static final int[] ROUNDS = {1, 3, 4, 6, 8, 12, 16, 20, 24, 30, 32, 36, 40, 42, 48, 54, 60, 64, 70, 72,
         80, 84, 90, 96};
