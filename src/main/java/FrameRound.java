@@ -1326,8 +1326,13 @@ public final class FrameRound {
                 }
             }
             int reachedFrames = 0;
+            // Each turn but the last reaches a JOB more.
             for (int n = 0; n <= jobs; n++) {
+                int before = reachedFrames;
                 reachedFrames = windowsOf(reachedJobs);
+                if (reachedFrames == before) {
+                    return reachedFrames;
+                }
                 reachedJobs |= holdersOf(reachedFrames);
             }
             return reachedFrames;

@@ -48,7 +48,11 @@ public final class ChangesTest {
         CHECK.told("44 the TABLE is anew", x, x.slack(1, 0), 57);
         CHECK.told("44 just more than the RESERVE", x, x.reframe(1, 4), 60);
         CHECK.told("44 timers", x, x.ticks(1, 1, 1000), 4);
-        CHECK.refused("44 the RESERVE", x, x.reframe(1, 3), 2);
+        CHECK.refused("44 less than 4", x, x.reframe(1, 3), 2);
+        x.reframe(1, 10);
+        x.reserve(1, 6);
+        CHECK.refused("44 the RESERVE", x, x.reframe(1, 6), 2);
+        CHECK.told("44 one more", x, x.reframe(1, 7), 10);
     }
 
     private static void reserve() {
@@ -68,10 +72,14 @@ public final class ChangesTest {
     private static void used(FrameRound x) {
         x.run(2);
         x.take(1, 100);
-        x.take(1, 12);
+        x.take(1, 15);
         x.step(9);
+        x.run(2);
         x.change(1);
         x.keep();
+        CHECK.due("43 used: a FRAME", x.clock(2), 1);
+        CHECK.due("43 used: DONE", x.clock(4), 2);
+        CHECK.due("43 used: a SWITCH", x.clock(7), 1);
     }
 
     private static void isAnew(String what, FrameRound x) {

@@ -23,6 +23,7 @@ public final class ClockTest {
         safeEndsWithWaiting();
         switching();
         switchedAhead();
+        switchedRounds();
         leastTime();
         keepAndBack();
         withoutPlan();
@@ -61,6 +62,8 @@ public final class ClockTest {
         CHECK.refused("30 less", x, x.ahead(-1, 0), 2);
         CHECK.refused("30 no what", x, x.ahead(0, 4), 1);
         CHECK.refused("30 no what first", x, x.ahead(100, -1), 1);
+        FrameRound y = Check.planned(ZERO);
+        CHECK.told("30 of one mode alone", y, y.ahead(3, 3), 4);
     }
 
     private static void waiting(String what, FrameRound x, int[]... due) {
@@ -209,11 +212,24 @@ public final class ClockTest {
         CHECK.told("37 none", x, x.step(99), 0);
         CHECK.due("29 CUT OFF", x.clock(6), 99);
         CHECK.told("36 none still", x, x.spare(), 0);
+        FrameRound y = Check.planned(PLAN);
+        y.take(4, 20);
+        y.run(2);
+        CHECK.told("36 of what is ahead now", y, y.spare(), 4);
+        y.take(5, 20);
+        y.take(1, 80);
+        y.back();
+        CHECK.told("36 less", y, y.spare(), 1);
+        y.step(0);
+        CHECK.told("36 and less", y, y.spare(), 1);
     }
 
     private static void stepAndRun() {
         FrameRound x = Check.planned(PLAN);
         x.run(2);
+        x.keep();
+        CHECK.told("37 one", x, x.step(1), 1);
+        x.back();
         CHECK.told("37 as much as it asks for", x, x.step(3), 3);
         CHECK.told("37 none", x, x.step(0), 0);
         clock("steps", x, 20, 0, 0, 0, 0, 3, 0, -2, -2, -2);
@@ -273,6 +289,17 @@ public final class ClockTest {
         CHECK.told("39 a FRAME more", x, x.safeEnd(1), 20);
         CHECK.told("40 it is so", x, x.change(1), 20);
         CHECK.told("38 all in time", x, x.run(10), 3);
+        // Without any SLACK of its own the other mode must wait for the last one WAITING.
+        FrameRound y = Check.planned(Check.mode(4, 3) + Check.task(0, 48, 1, 4) + ";"
+            + Check.mode(60, 59) + Check.task(0, 60, 1, 60));
+        CHECK.told("33 far", y, y.take(90, 400), 0);
+        // 11 of each 48: 90 by 8 ROUNDS and 3 FRAMES, that is 396; at 392 one is left.
+        CHECK.told("31 far", y, y.waiting(0, 2), 396);
+        CHECK.told("39 far", y, y.safeEnd(1), 396);
+        CHECK.told("40 far", y, y.change(1), 396);
+        CHECK.due("29 far", y.clock(8), 396);
+        CHECK.told("38 far", y, y.run(99), 1);
+        CHECK.told("29 then", y, y.clock(1), 1);
     }
 
     private static void switching() {
@@ -325,6 +352,30 @@ public final class ClockTest {
         clock("behind it", x, 18, 1, 0, 0, 1, 0, 0, -2, -2, 2);
     }
 
+    /** The other mode's ROUND, from FRAME 0, wherever the first one was left. */
+    private static void switchedRounds() {
+        FrameRound x = Check.planned(PLAN);
+        CHECK.told("40 at once", x, x.change(1), 0);
+        x.take(1, 4);
+        CHECK.told("40 behind the one WAITING", x, x.change(0), 4);
+        int[][] due = {{0, 1, 0, 1}, {4, 0, 0, 0}, {9, 0, 1, 2}, {14, 0, 2, 4}, {19, 0, 3, 4}, {24, 0, 0, 0}};
+        for (int n = 0; n < due.length; n++) {
+            for (int what = 0; what < 4; what++) {
+                CHECK.told("30 rounds " + n + " " + what, x, x.ahead(n, what), due[n][what]);
+            }
+        }
+        CHECK.told("35 rounds", x, x.greatest(14), 2);
+        CHECK.told("35 rounds", x, x.greatest(400), 2 + 4 + 4 + 18 * 10 + 2 + 4);
+        CHECK.told("34 rounds", x, x.soonest(3), 19);
+        x.run(1);
+        CHECK.told("40 at once", x, x.change(1), 4);
+        CHECK.told("40 at once", x, x.change(0), 4);
+        x.run(1);
+        x.change(0);
+        CHECK.told("30 the same mode from FRAME 0", x, x.ahead(1, 2), 0);
+        CHECK.told("30 and on", x, x.ahead(3, 2), 2);
+    }
+
     private static void leastTime() {
         FrameRound x = Check.planned(Check.mode(10, 5));
         x.take(5, 100);
@@ -353,12 +404,14 @@ public final class ClockTest {
         y.step(9);
         y.change(1);
         clock("ahead of keep", y, 10, 0, 2, 2, 0, 2, 7, 1, 15, -2);
+        y.mode(9, 9);
         CHECK.due("41 kept", y.keep(), true);
         CHECK.due("41 not refused", y.trouble(), 0);
         CHECK.due("41 it goes on", y.clock(0), 10);
         y.run(3);
         y.take(1, 100);
         y.step(20);
+        y.mode(9, 9);
         CHECK.due("42 back", y.back(), true);
         CHECK.due("42 not refused", y.trouble(), 0);
         clock("as it was", y, 10, 0, 2, 2, 0, 2, 7, 1, 15, -2);
@@ -405,6 +458,7 @@ public final class ClockTest {
         CHECK.refused("29 without a PLAN", x, x.clock(0), 1);
         CHECK.refused("30 ahead of 2", x, x.ahead(100, 0), 1);
         CHECK.refused("31 without a PLAN", x, x.waiting(0, 0), 1);
+        x.plan(1);
         CHECK.due("41 without a PLAN", x.keep(), false);
         CHECK.due("41 refused", x.trouble(), 1);
         x.plan(1);

@@ -42,7 +42,14 @@ public final class LengthsTest {
         CHECK.told("10 REACH and WINDOW", y, y.judge(1, 6), 4 + 8 + 16);
         CHECK.told("10 a COST of more than the ROOM", y, y.judge(2, 6), 2 + 16);
         CHECK.told("10 REACH is just SPAN", y, y.judge(2, 4), 2);
-        CHECK.told("10 REACH alone", y, y.judge(1, 4), 0);
+        CHECK.told("10 4 by 3, REACH 5", y, y.judge(1, 4), 0);
+        FrameRound z = Check.planned(Check.mode(6, 4) + Check.task(0, 12, 2, 12) + ";"
+            + Check.mode(60, 5) + Check.task(0, 12, 2, 12) + Check.task(0, 12, 1, 12));
+        CHECK.told("10 a COST that is the ROOM", z, z.judge(0, 6), 0);
+        CHECK.told("10 a RESERVE of more than g", z, z.judge(1, 4), 2 + 16);
+        CHECK.told("11 a RESERVE of more than g", z, z.most(1, 4), 0);
+        CHECK.told("12 a RESERVE of more than g", z, z.over(1, 4), 3);
+        CHECK.told("13 a RESERVE of more than g", z, z.cutFrames(1, 4), 7);
     }
 
     private static void cuts() {
@@ -89,6 +96,15 @@ public final class LengthsTest {
         CHECK.told("13 pushed farther: FRAME 2 takes 1 from 1", x, x.cutFrames(1, 4), 7);
         CHECK.told("14 pushed farther", x, x.cutJobs(1, 4), 3);
         CHECK.told("12 pushed farther", x, x.over(1, 4), 2);
+        // JOB 0 has one UNIT in FRAME 2, where JOB 1 is too much: its FRAMES are of no use to JOB 1 ..
+        FrameRound y = Check.planned(Check.mode(4, 0) + Check.task(0, 12, 9, 12) + Check.task(8, 12, 4, 4)
+            + ";" + Check.mode(4, 0) + Check.task(0, 24, 9, 12) + Check.task(8, 24, 4, 4)
+            + Check.task(12, 24, 5, 4));
+        CHECK.told("11 by one UNIT", y, y.most(0, 4), 12);
+        CHECK.told("13 by one UNIT", y, y.cutFrames(0, 4), 7);
+        CHECK.told("14 by one UNIT", y, y.cutJobs(0, 4), 3);
+        CHECK.told("13 and beside it", y, y.cutFrames(1, 4), 15);
+        CHECK.told("12 and beside it", y, y.over(1, 4), 2);
     }
 
     private static void goods() {
@@ -108,6 +124,12 @@ public final class LengthsTest {
         CHECK.refused("16 no fifth", x, x.good(2, 5), 1);
         CHECK.refused("16 less than 0", x, x.good(2, -1), 1);
         CHECK.refused("16 far", x, x.good(2, Integer.MAX_VALUE), 1);
+        FrameRound all = Check.planned(Check.mode(6, 0) + Check.task(0, 48, 4, 48) + ";" + Check.mode(6, 0)
+            + Check.task(0, 32, 1, 32) + Check.task(0, 48, 1, 48));
+        CHECK.told("15 up to 48", all, all.goods(0), 7);
+        CHECK.told("16 48", all, all.good(0, 6), 48);
+        CHECK.told("15 96 has empty WINDOWS", all, all.goods(1), 6);
+        CHECK.told("18 48", all, all.fewestBy(0), 48);
         FrameRound y = Check.planned(Check.mode(6, 0) + Check.task(0, 3, 1, 3) + ";" + B);
         CHECK.told("15 none", y, y.goods(0), 0);
         CHECK.refused("16 none", y, y.good(0, 0), 1);

@@ -115,6 +115,9 @@ public final class PlanTest {
         fault("5", 1, 0);
         fault("modes frame 10 reserve 2", 1, 0);
         fault("mod frame 10 reserve 2", 1, 0);
+        fault("lode frame 10 reserve 2", 1, 0);
+        fault("modez frame 10 reserve 2", 1, 0);
+        fault("mode frame 10 reserve 2;aask", 1, 24);
         fault("Mode frame 10 reserve 2", 1, 0);
         fault("mode 10 reserve 2", 1, 5);
         fault("mode frame reserve 2", 1, 11);
@@ -158,6 +161,12 @@ public final class PlanTest {
         fault(task + "0 every 20 costs 4 within 21", 2, 61);
         fault(task + "5 every 20 costs 4 within 16", 2, 61);
         fault(task + "0 every 60 costs 4 within 61", 2, 61);
+        fault(task + "60;" + MODE, 2, 35);
+        fault(task + "0 every 0;" + MODE, 2, 43);
+        fault(task + "0 every 20 costs 0;" + MODE, 2, 52);
+        fault(task + "0 every 20 costs 4 within 0;" + MODE, 2, 61);
+        fault("mode frame 3;" + MODE, 2, 11);
+        fault("mode frame 4 reserve 4;" + MODE, 2, 21);
     }
 
     private static void roomFaults() {
@@ -210,8 +219,22 @@ public final class PlanTest {
         CHECK.due("3 the edges of a TASK", x.task(0, 0, 0), 59);
         CHECK.due("3 its COST", x.task(0, 0, 2), 60);
         CHECK.due("3 its SPAN", x.task(0, 0, 3), 1);
-        x = Check.planned(MODE + Check.task(0, 1, 1, 1));
-        CHECK.due("3 the least PERIOD", x.mode(0, 3), 1);
+        x = Check.planned(MODE + Check.task(0, 1, 1, 1) + Check.task(0, 3, 1, 3));
+        CHECK.due("3 the least PERIOD", x.mode(0, 3), 3);
+        CHECK.due("3 its JOBS", x.task(0, 0, 4), 3);
+        CHECK.due("3 all JOBS", x.mode(0, 4), 4);
+        CHECK.due("3 a JOB of it", x.job(0, 2, 1), 1);
+        fault(MODE + Check.task(0, 1, 1, 1) + ";task phase 0 every 24", 6, 81);
+        String[] others = {Check.task(0, 12, 2, 12) + Check.task(0, 6, 1, 6), Check.task(3, 10, 1, 7), ""};
+        int[] rounds = {12, 10, 10};
+        int[] jobs = {3, 1, 0};
+        for (int n = 0; n < 9; n++) {
+            CHECK.told("3 one PLAN behind the other", x, Check.plan(x, MODE + others[n % 3]), 1);
+            CHECK.due("3 its ROUND", x.mode(0, 3), rounds[n % 3]);
+            CHECK.due("3 its JOBS", x.mode(0, 4), jobs[n % 3]);
+            CHECK.due("3 TASKS", x.size(1), 2 - n % 3);
+            CHECK.due("3 JOBS", x.size(2), jobs[n % 3]);
+        }
     }
 
     private static void faultAndWhere() {

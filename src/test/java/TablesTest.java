@@ -92,6 +92,18 @@ public final class TablesTest {
         FrameRound z = Check.planned(Check.mode(10, 5) + Check.task(0, 20, 2, 20) + Check.task(0, 20, 4, 20));
         table(z, 0, new int[][] {{2, 0}, {0, 4}});
         CHECK.told("23 the least a", z, z.swaps(0), 1);
+        // JOB 0 itself: 3 of 4 are taken by a later one with a narrow WINDOW: 1, 4, 2 first; FRAME 2 has just 1 left.
+        FrameRound first = Check.planned(Check.mode(4, 0) + Check.task(0, 12, 7, 12) + Check.task(0, 12, 3, 4));
+        table(first, 0, new int[][] {{0, 4, 3}, {3, 0, 0}});
+        CHECK.told("23 JOB 0", first, first.swaps(0), 1);
+        // 4 in FRAME 0, 2 in 1: JOB 1 has 2 there and 2 in 2 ..: SLACK is just its UNITS.
+        FrameRound just = Check.planned(Check.mode(4, 0) + Check.task(0, 12, 6, 8) + Check.task(0, 12, 4, 12));
+        table(just, 0, new int[][] {{4, 2, 0}, {0, 0, 4}});
+        CHECK.told("23 SLACK is just enough", just, just.swaps(0), 1);
+        // 5, 2 | 3, 3 (of 5): JOB 0 can't; JOB 1 goes from 1 to 2; then JOB 0 has no room for 5, but 2 not either.
+        FrameRound last = Check.planned(Check.mode(5, 0) + Check.task(0, 15, 7, 15) + Check.task(0, 15, 6, 15));
+        table(last, 0, new int[][] {{5, 2, 0}, {0, 3, 3}});
+        CHECK.told("23 none", last, last.swaps(0), 0);
     }
 
     /** Later JOBS get what they need, even if the earlier ones must take less, or later FRAMES. */
