@@ -39,6 +39,8 @@ public final class FrameRound {
     private static final int MOST_STEPS = 100;
     private static final int MOST_TIMED_FRAMES = 100000;
     private static final int GREATEST_HZ = 100000;
+    /** More than any count or sum of UNITS here can be. */
+    private static final int PLENTY = 1000000;
 
     private static final int LENGTH_NOT_IN_ROUND = 1;
     private static final int COST_OVER_ROOM = 2;
@@ -655,7 +657,7 @@ public final class FrameRound {
     private int framesToSwitch() {
         int length = tables[clock.mode].flow.length;
         if (!clock.hasSwitch() || length <= 0) {
-            return Integer.MAX_VALUE;
+            return PLENTY;
         }
         return (clock.nextTime - clock.now) / length;
     }
@@ -1422,7 +1424,7 @@ public final class FrameRound {
 
         /** The least that any run from FRAME a to k or farther has beyond what later JOBS need of it. */
         private int leastLeft(int j, int a, int k) {
-            int least = Integer.MAX_VALUE;
+            int least = PLENTY;
             int sum = 0;
             for (int b = a; b < flow.last[j]; b++) {
                 sum += flow.slack[b] - costsOfLater(j, a, b);
@@ -1726,11 +1728,11 @@ public final class FrameRound {
 
         /** The least that is left for any WAITING beyond what it needs and all ahead of it. */
         int margin(Clock clock) {
-            return leastMargin(clock, Integer.MIN_VALUE);
+            return leastMargin(clock, 0);
         }
 
         private int leastMargin(Clock clock, int dueFrom) {
-            int least = Integer.MAX_VALUE;
+            int least = PLENTY;
             int needs = 0;
             for (int i = 0; i < clock.waiting; i++) {
                 needs += clock.need[i];
