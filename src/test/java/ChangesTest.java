@@ -9,6 +9,7 @@ public final class ChangesTest {
         reframe();
         reserve();
         clockIsAnew();
+        tidiedAnew();
         refusedOnesChangeNothing();
         wrong();
         CHECK.end();
@@ -105,6 +106,24 @@ public final class ChangesTest {
         used(x);
         x.reserve(0, 0);
         isAnew("45", x);
+        x.change(1);
+        x.take(9, 100);
+        CHECK.due("43 in mode 1", x.clock(1), 1);
+        CHECK.due("43 one WAITING", x.clock(3), 1);
+        x.reserve(0, 1);
+        isAnew("45 in mode 0", x);
+        CHECK.refused("45 none WAITING", x, x.waiting(0, 0), 1);
+    }
+
+    /** 6 and 7 UNITS, of which 4 go from one FRAME to the other, each time. */
+    private static void tidiedAnew() {
+        FrameRound x = Check.planned(Check.mode(10, 0) + Check.task(0, 40, 6, 40) + Check.task(0, 40, 7, 40));
+        CHECK.due("23 once", x.swaps(0), 1);
+        x.recost(0, 0, 6);
+        CHECK.due("43 once", x.swaps(0), 1);
+        x.recost(0, 0, 3);
+        CHECK.due("43 not at all", x.swaps(0), 0);
+        CHECK.due("43 PIECES", x.pieces(0), 2);
     }
 
     private static void refusedOnesChangeNothing() {

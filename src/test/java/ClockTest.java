@@ -24,6 +24,7 @@ public final class ClockTest {
         switching();
         switchedAhead();
         switchedRounds();
+        switchedBack();
         leastTime();
         keepAndBack();
         withoutPlan();
@@ -300,6 +301,19 @@ public final class ClockTest {
         CHECK.due("29 far", y.clock(8), 396);
         CHECK.told("38 far", y, y.run(99), 1);
         CHECK.told("29 then", y, y.clock(1), 1);
+        safeEndsInLaterRounds();
+    }
+
+    /** SLACKS 5, 0, 0, 3; its JOB is OPEN at FRAMES 2 and 3; the other mode has no SLACK. */
+    private static void safeEndsInLaterRounds() {
+        int[] need = {5, 6, 8, 9, 13, 14, 16, 17};
+        int[] due = {5, 20, 20, 25, 25, 40, 40, 45};
+        for (int i = 0; i < need.length; i++) {
+            FrameRound x = Check.planned(Check.mode(5, 0) + Check.task(5, 20, 12, 15) + ";"
+                + Check.mode(60, 59) + Check.task(0, 60, 1, 60));
+            x.take(need[i], 400);
+            CHECK.told("39 behind " + need[i], x, x.safeEnd(1), due[i]);
+        }
     }
 
     private static void switching() {
@@ -374,6 +388,19 @@ public final class ClockTest {
         x.change(0);
         CHECK.told("30 the same mode from FRAME 0", x, x.ahead(1, 2), 0);
         CHECK.told("30 and on", x, x.ahead(3, 2), 2);
+    }
+
+    /** What is ahead follows THE CLOCK, whatever was asked in between. */
+    private static void switchedBack() {
+        FrameRound x = Check.planned(PLAN);
+        x.run(1);
+        x.change(1);
+        x.keep();
+        x.run(1);
+        x.safeEnd(0);
+        x.back();
+        CHECK.told("35 behind the SWITCH", x, x.greatest(22), 5);
+        CHECK.told("34 behind the SWITCH", x, x.soonest(5), 22);
     }
 
     private static void leastTime() {

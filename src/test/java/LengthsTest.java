@@ -105,6 +105,9 @@ public final class LengthsTest {
         CHECK.told("14 by one UNIT", y, y.cutJobs(0, 4), 3);
         CHECK.told("13 and beside it", y, y.cutFrames(1, 4), 15);
         CHECK.told("12 and beside it", y, y.over(1, 4), 2);
+        FrameRound z = Check.planned(Check.mode(5, 1) + Check.task(0, 30, 1, 10) + Check.task(10, 30, 20, 10));
+        CHECK.told("13 without JOB 0", z, z.cutFrames(0, 5), 4 + 8);
+        CHECK.told("14 without JOB 0", z, z.cutJobs(0, 5), 2);
     }
 
     private static void goods() {

@@ -165,6 +165,10 @@ public final class PlanTest {
         fault(task + "0 every 0;" + MODE, 2, 43);
         fault(task + "0 every 20 costs 0;" + MODE, 2, 52);
         fault(task + "0 every 20 costs 4 within 0;" + MODE, 2, 61);
+        fault(task + "60;?", 2, 35);
+        fault(task + "0 every 0;?", 2, 43);
+        fault(task + "0 every 20 costs 0;?", 2, 52);
+        fault(task + "0 every 20 costs 4 within 0;?", 2, 61);
         fault("mode frame 3;" + MODE, 2, 11);
         fault("mode frame 4 reserve 4;" + MODE, 2, 21);
     }
