@@ -1,10 +1,15 @@
+import java.lang.reflect.InvocationTargetException;
+import java.lang.reflect.Method;
+import java.util.Map;
 import java.util.NoSuchElementException;
+import java.util.TreeMap;
 
 /** What the project's tests share: counting wrong answers, and PLANS told as texts. */
 final class Check {
     private final String name;
     private int asked = 0;
     private int wrong = 0;
+    private String test = "";
 
     Check(String name) {
         this.name = name;
@@ -15,7 +20,7 @@ final class Check {
         if (got != want) {
             wrong++;
             if (wrong <= 40) {
-                System.out.println(name + ": " + what + " answered " + got + ", due is " + want);
+                System.out.println(name + ": " + test + what + " answered " + got + ", due is " + want);
             }
         }
     }
@@ -44,6 +49,36 @@ final class Check {
             threw = true;
         }
         due(what + " throws", threw, true);
+    }
+
+    /** The tests of a class: its methods whose names begin with a promise's number. */
+    static Map<String, Method> testsOf(Class<?> tests) {
+        Map<String, Method> found = new TreeMap<>();
+        for (Method m : tests.getDeclaredMethods()) {
+            if (m.getName().matches("promise[0-9][0-9]_.*")) {
+                found.put(m.getName(), m);
+            }
+        }
+        return found;
+    }
+
+    /** Each on its own: one that throws, or asks nothing, is wrong, and the others are run all the same. */
+    void runAll(Class<?> tests) {
+        for (Map.Entry<String, Method> entry : testsOf(tests).entrySet()) {
+            test = entry.getKey() + ": ";
+            int before = asked;
+            String thrown = "nothing";
+            try {
+                entry.getValue().invoke(null);
+            } catch (InvocationTargetException e) {
+                thrown = e.getCause().toString();
+            } catch (IllegalAccessException e) {
+                thrown = e.toString();
+            }
+            due("asks something", asked > before, true);
+            due("throws " + thrown, thrown.equals("nothing"), true);
+        }
+        test = "";
     }
 
     void end() {
