@@ -194,12 +194,16 @@ public final class LengthsEdgesTest {
         numbers((x, m, g) -> x.cutJobs(m, g), 0, 1);
     }
 
+    /** Each asked on its own, with another length asked ahead of it: none rests on what was asked. */
     private static void cut(String text, int g, int over, int frames, int jobs) {
         FrameRound x = Check.planned(text);
+        CHECK.told("11 and 12 " + text, x, x.most(0, g) + over, x.mode(0, 6));
+        x.most(0, 95);
         CHECK.told("12 " + text, x, x.over(0, g), over);
+        x.most(0, 95);
         CHECK.told("13 " + text, x, x.cutFrames(0, g), frames);
+        x.most(0, 95);
         CHECK.told("14 " + text, x, x.cutJobs(0, g), jobs);
-        CHECK.told("11 and 12 " + text, x, x.most(0, g) + x.over(0, g), x.mode(0, 6));
     }
 
     /** If it just FITS, all FRAMES and none have the same OVER of 0: none are the fewest. */
@@ -217,6 +221,20 @@ public final class LengthsEdgesTest {
         cut(Check.mode(4, 0) + Check.task(0, 8, 4, 4) + Check.task(4, 8, 5, 4), 4, 1, 2, 2);
         cut(Check.mode(4, 0) + Check.task(0, 8, 5, 4) + Check.task(0, 8, 4, 8), 4, 1, 1, 1);
         cut(Check.mode(4, 0) + Check.task(0, 8, 5, 4) + Check.task(0, 8, 5, 8), 4, 2, 3, 3);
+    }
+
+    /** JOB 0 has a UNIT in the FRAME in which JOB 1 is too much, and no room to make way: its FRAMES count. */
+    static void promise13_whoCanNotMakeWay() {
+        cut(Check.mode(4, 0) + Check.task(0, 12, 9, 12) + Check.task(8, 12, 4, 4), 4, 1, 7, 3);
+        cut(Check.mode(4, 0) + Check.task(0, 12, 8, 12) + Check.task(8, 12, 4, 4), 4, 0, 0, 0);
+        cut(Check.mode(4, 0) + Check.task(0, 12, 8, 12) + Check.task(8, 12, 5, 4), 4, 1, 4, 2);
+        cut(Check.mode(4, 0) + Check.task(0, 12, 9, 12) + Check.task(8, 12, 5, 4), 4, 2, 7, 3);
+        // One pushes the next: JOB 2 is too much in FRAME 2, JOB 1 (FRAMES 1, 2) and JOB 0 (FRAMES 0, 1) are full.
+        cut(Check.mode(4, 0) + Check.task(0, 12, 5, 8) + Check.task(4, 12, 5, 8) + Check.task(8, 12, 3, 4), 4, 1, 7, 7);
+        cut(Check.mode(4, 0) + Check.task(0, 12, 4, 8) + Check.task(4, 12, 5, 8) + Check.task(8, 12, 3, 4), 4, 0, 0, 0);
+        // FRAME 3 and its JOB are beside it.
+        cut(Check.mode(4, 0) + Check.task(0, 16, 5, 8) + Check.task(4, 16, 5, 8) + Check.task(8, 16, 3, 4)
+            + Check.task(12, 16, 4, 4), 4, 1, 7, 7);
     }
 
     static void promise13_theLastFrameOf24() {
@@ -408,6 +426,18 @@ public final class LengthsEdgesTest {
     static void promise19_none() {
         headroom(Check.mode(5, 0) + Check.task(0, 20, 9, 20) + Check.task(0, 20, 21, 20), -2);
         headroom(Check.mode(5, 0) + Check.task(0, 20, 9, 20) + Check.task(1, 20, 1, 8), -2);
+    }
+
+    /** 24 JOBS; the other TASK's have empty WINDOWS, or none have. */
+    static void promise19_24Jobs() {
+        headroom(CROWD, -2);
+        FrameRound x = Check.planned(CROWD);
+        CHECK.told("not even by 0", x, x.headroom(0, 1), -2);
+        FrameRound y = Check.planned(Check.mode(4, 0) + Check.task(0, 8, 1, 8) + Check.task(0, 8, 1, 8)
+            + Check.task(3, 8, 1, 5) + Check.task(0, 16, 1, 16) + Check.task(0, 24, 1, 24) + Check.task(0, 48, 1, 48));
+        // 48 UNITS, 24 are had; each more of the last costs one, of the first six.
+        CHECK.told("the last TASK", y, y.headroom(0, 5), 25);
+        CHECK.told("the first", y, y.headroom(0, 0), 5);
     }
 
     /** Of all its JOBS alike, and whether or not the ROUND is a multiple of the FRAME. */

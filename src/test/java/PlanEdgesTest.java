@@ -293,6 +293,28 @@ public final class PlanEdgesTest {
         CHECK.told("its TABLE", x, x.slack(0, 0), 1);
     }
 
+    /** One behind the other: of those ahead nothing counts, neither TASKS nor JOBS nor a ROUND. */
+    static void promise03_onePlanBehindTheOther() {
+        String[] texts = {TASK + "0 every 46 costs 1 within 1;task phase 0 every 2 costs 1 within 1", MODE,
+            TASK + "3 every 60 costs 2 within 7", MODE + ";" + TASK + "0 every 59 costs 1 within 1"};
+        int[][] due = {{1, 2, 24}, {1, 0, 0}, {1, 1, 1}, {2, 1, 1}};
+        int[] rounds = {46, 10, 60, 10};
+        FrameRound x = new FrameRound();
+        for (int n = 0; n < 24; n++) {
+            // Each of them behind each, the same one too.
+            int i = (n / 4 * (n % 4) + n) % 4;
+            CHECK.told(texts[i], x, Check.plan(x, texts[i]), due[i][0]);
+            CHECK.told("TASKS of the last", x, x.mode(due[i][0] - 1, 2), due[i][1]);
+            CHECK.due("TASKS", x.size(1), due[i][1]);
+            CHECK.due("JOBS", x.size(2), due[i][2]);
+            CHECK.told("ROUND", x, x.mode(0, 3), rounds[i]);
+        }
+        for (int n = 0; n < 4; n++) {
+            CHECK.told("the same again", x, Check.plan(x, texts[0]), 1);
+            CHECK.due("JOBS", x.size(2), 24);
+        }
+    }
+
     static void promise03_howManyModes() {
         good(MODE, 1);
         good(MODE + ";" + MODE, 2);
@@ -386,6 +408,10 @@ public final class PlanEdgesTest {
         fault("mode frame 10 reserv 2", 1, 14);
         fault("abcdefg", 1, 0);
         fault("abcdefgh", 1, 0);
+        fault("modez frame 10 reserve 2", 1, 0);
+        fault("modea frame 10 reserve 2", 1, 0);
+        fault("mode framez 10 reserve 2", 1, 5);
+        fault("mode frame 10 reserve 2z", 1, 23);
         fault(MODE + ";abcdefgh", 1, 24);
         fault(MODE + " abcdefgh", 1, 24);
     }
@@ -422,6 +448,16 @@ public final class PlanEdgesTest {
         fault("frame 10 reserve 2", 1, 0);
         fault("10", 1, 0);
         fault("modes frame 10 reserve 2", 1, 0);
+        fault("lode frame 10 reserve 2", 1, 0);
+        fault("mode grame 10 reserve 2", 1, 5);
+        fault("mode frame 10 teserve 2", 1, 14);
+        fault("mode frame 10 reservf 2", 1, 14);
+        fault(MODE + ";uask", 1, 24);
+        fault(MODE + ";mask", 1, 24);
+        fault(MODE + ";task chase", 1, 29);
+        fault(TASK + "0 avery", 1, 37);
+        fault(TASK + "0 every 20 bosts", 1, 46);
+        fault(TASK + "0 every 20 costs 4 wathin", 1, 54);
         fault("mod frame 10 reserve 2", 1, 0);
         fault("mode task", 1, 5);
         fault("mode reserve 2 frame 10", 1, 5);
@@ -613,6 +649,9 @@ public final class PlanEdgesTest {
         fault(TASK + "0 every 1 costs 1 within 1;task phase 0 every 24", 6, 81);
         x = good(TASK + "0 every 1 costs 1 within 1;task phase 0 every 23 costs 1 within 1", 1);
         CHECK.due("24", x.mode(0, 4), 24);
+        fault(TASK + "0 every 24 costs 1 within 1;task phase 0 every 1", 6, 82);
+        x = good(TASK + "0 every 23 costs 1 within 1;task phase 0 every 1 costs 1 within 1", 1);
+        CHECK.due("24", x.mode(0, 4), 24);
         fault(TASK + "0 every 46 costs 1 within 1;task phase 0 every 2 costs 1 within 1;task phase 0 every 46", 6, 120);
         x = good(TASK + "0 every 46 costs 1 within 1;task phase 0 every 2 costs 1 within 1;" + TASK
             + "0 every 46 costs 1 within 1;task phase 0 every 2 costs 1 within 1", 2);
@@ -647,6 +686,15 @@ public final class PlanEdgesTest {
         fault(TASK + "0 every 60 costs 1 within 1;task phase 0 every 7 costs 0", 5, 82);
         fault(TASK + "0 every 60 costs 1 within 1;task phase 0 every 2 costs 0", 6, 82);
         fault(MODE + ";" + MODE + ";" + MODE + ";mode frame 99", 3, 72);
+        String[] behind = {";?", ";" + MODE, " ?", ";task", ";mode frame 3"};
+        for (String more : behind) {
+            fault("mode frame 3" + more, 2, 11);
+            fault("mode frame 4 reserve 4" + more, 2, 21);
+            fault(TASK + "60" + more, 2, 35);
+            fault(TASK + "0 every 61" + more, 2, 43);
+            fault(TASK + "0 every 20 costs 61" + more, 2, 52);
+            fault(TASK + "0 every 20 costs 4 within 21" + more, 2, 61);
+        }
     }
 
     // ---- promises 4 and 5 themselves

@@ -147,6 +147,29 @@ public final class SwitchEdgesTest {
         clock("there", x, 420, 1, 0, 0, 1, 0, 0, -2, -2, 0);
     }
 
+    /** SLACKS 5, 0, 0, 3; its JOB is OPEN at FRAMES 2 and 3 of each ROUND; the other mode has no SLACK. */
+    static void promise39_laterRounds() {
+        int[] need = {5, 6, 8, 9, 13, 14, 16, 17, 21, 22, 24, 25};
+        int[] due = {5, 20, 20, 25, 25, 40, 40, 45, 45, 60, 60, 65};
+        for (int i = 0; i < need.length; i++) {
+            FrameRound x = Check.planned(Check.mode(5, 0) + Check.task(5, 20, 12, 15) + ";" + FULL);
+            x.take(need[i], 400);
+            CHECK.told("behind " + need[i], x, x.safeEnd(1), due[i]);
+        }
+    }
+
+    /** From NOW on: a FRAME of the other mode that ends just at a DUE counts. */
+    static void promise39_justAtADue() {
+        FrameRound x = Check.planned(TEN + ";" + Check.mode(20, 10));
+        x.take(10, 20);
+        CHECK.told("at once", x, x.safeEnd(1), 0);
+        x.take(1, 20);
+        CHECK.told("one too many for that", x, x.safeEnd(1), 20);
+        FrameRound y = Check.planned(TEN + ";" + Check.mode(20, 10));
+        y.take(9, 19);
+        CHECK.told("one too early for that", y, y.safeEnd(1), 10);
+    }
+
     static void promise39_changesNothing() {
         FrameRound x = Check.planned(PLAN);
         CHECK.told("at once", x, x.safeEnd(1), 0);
@@ -367,6 +390,31 @@ public final class SwitchEdgesTest {
         kept("reserve refused by 2", x -> x.reserve(0, 5), true);
         kept("a SWITCH to come", x -> x.change(1), true);
         kept("a SWITCH refused", x -> x.change(2), true);
+    }
+
+    /** What is ahead follows THE CLOCK, whatever was asked in between. */
+    static void promise42_withASwitchToCome() {
+        FrameRound x = Check.planned(PLAN);
+        x.run(1);
+        x.change(1);
+        x.keep();
+        x.run(1);
+        CHECK.told("asked in between", x, x.safeEnd(0), 10);
+        x.back();
+        CHECK.told("behind the SWITCH", x, x.greatest(22), 5);
+        x.run(1);
+        x.safeEnd(0);
+        x.back();
+        CHECK.told("behind the SWITCH", x, x.soonest(5), 22);
+        x.run(1);
+        x.safeEnd(0);
+        x.back();
+        CHECK.told("behind the SWITCH", x, x.canTake(6, 22), 0);
+        x.run(1);
+        x.safeEnd(0);
+        x.back();
+        CHECK.told("behind the SWITCH", x, x.take(5, 22), 0);
+        CHECK.told("none is SPARE", x, x.spare(), 0);
     }
 
     /** Kept in one mode, gone to another. */

@@ -298,6 +298,17 @@ public final class TablesEdgesTest {
         CHECK.told("FRAME 2", x, x.begins(0, 0, 2), 8);
     }
 
+    /** 4 in FRAME 0: JOBS 0, 1, 2, 3; JOB 4 with JOB 5 (due earlier) in FRAME 1; JOB 23 in the last. */
+    static void promise25_24Jobs() {
+        FrameRound x = Check.planned(Check.mode(4, 0) + Check.task(0, 8, 1, 8) + Check.task(0, 8, 1, 8)
+            + Check.task(3, 8, 1, 5) + Check.task(0, 16, 1, 16) + Check.task(0, 24, 1, 24) + Check.task(0, 48, 1, 48));
+        int[][] due = {{0, 0, 0}, {1, 0, 1}, {2, 0, 2}, {3, 0, 3}, {4, 1, 5}, {5, 1, 4}, {23, 11, 44}};
+        for (int[] d : due) {
+            CHECK.told("JOB " + d[0], x, x.begins(0, d[0], d[1]), d[2]);
+        }
+        CHECK.told("finishes", x, x.finishes(0, 23), 45);
+    }
+
     static void promise25_at0() {
         FrameRound x = Check.planned(ZERO);
         CHECK.told("0 is a time", x, x.begins(0, 0, 0), 0);

@@ -194,6 +194,41 @@ public final class ToldEdgesTest {
         CHECK.due("all calls but six", CALLS.length, 49 - 6);
     }
 
+    private interface What {
+        int of(FrameRound x, int what);
+    }
+
+    private static void eachWhat(FrameRound x, int last, What call) {
+        for (int what = 0; what <= last; what++) {
+            x.judge(0, 3);
+            CHECK.due("what " + what, call.of(x, what) != -1, true);
+            CHECK.due("0 behind what " + what, x.trouble(), 0);
+        }
+    }
+
+    /** By each what, and by answers of -2, too. */
+    static void promise50_notRefusedByAnyWhat() {
+        FrameRound x = Check.planned(PLAN);
+        x.take(1, 400);
+        eachWhat(x, 6, (y, what) -> y.mode(0, what));
+        eachWhat(x, 5, (y, what) -> y.task(0, 0, what));
+        eachWhat(x, 5, (y, what) -> y.job(0, 0, what));
+        eachWhat(x, 9, (y, what) -> y.clock(what));
+        eachWhat(x, 3, (y, what) -> y.ahead(0, what));
+        eachWhat(x, 2, (y, what) -> y.waiting(0, what));
+        Call[] nothing = {y -> y.headroom(0, 0), y -> y.reserveUpTo(0), y -> y.fewestBy(0), y -> y.job(0, 0, 4),
+            y -> y.begins(1, 0, 1), y -> y.soonest(1), y -> y.clock(7), y -> y.clock(8), y -> y.clock(9)};
+        FrameRound none = Check.planned(Check.mode(5, 0) + Check.task(1, 3, 1, 2) + Check.task(1, 3, 1, 2) + ";"
+            + Check.mode(10, 0) + Check.task(0, 20, 10, 20));
+        FrameRound full = Check.planned(Check.mode(5, 0) + Check.task(0, 5, 5, 5) + ";" + Check.mode(10, 0)
+            + Check.task(0, 20, 10, 20));
+        for (int i = 0; i < nothing.length; i++) {
+            FrameRound y = i < 4 ? none : full;
+            y.judge(0, 3);
+            CHECK.told("nothing " + i, y, nothing[i].of(y), -2);
+        }
+    }
+
     /** Without a PLAN each call but plan itself is refused by 1, whatever TROUBLE was. */
     static void promise50_withoutAPlan() {
         FrameRound x = new FrameRound();
