@@ -206,6 +206,32 @@ public final class LengthsEdgesTest {
         CHECK.told("14 " + text, x, x.cutJobs(0, g), jobs);
     }
 
+    private static void over(String text, int g, int due) {
+        FrameRound x = Check.planned(text);
+        CHECK.told(text + " by " + g, x, x.over(0, g), due);
+    }
+
+    /** 0 at least, as the empty set has that; all COSTS at most, without ROOM or FRAMES. */
+    static void promise12_noneAndAll() {
+        over(Check.mode(4, 0), 4, 0);
+        over(Check.mode(4, 0) + Check.task(0, 8, 1, 8), 4, 0);
+        over(Check.mode(4, 0) + Check.task(0, 8, 8, 8), 4, 0);
+        over(Check.mode(4, 0) + Check.task(0, 8, 9, 8), 4, 1);
+        over(Check.mode(9, 4) + Check.task(0, 8, 9, 8), 4, 9);
+        over(Check.mode(9, 5) + Check.task(0, 8, 9, 8), 4, 9);
+        over(Check.mode(9, 3) + Check.task(0, 8, 9, 8), 4, 7);
+        over(Check.mode(4, 0) + Check.task(0, 8, 9, 8), 9, 9);
+        over(Check.mode(4, 0) + Check.task(0, 46, 60, 46) + Check.task(0, 2, 60, 2), 96, 24 * 60);
+    }
+
+    /** COSTS of empty WINDOWS count, whatever else FITS. */
+    static void promise12_emptyWindows() {
+        over(Check.mode(5, 0) + Check.task(1, 20, 3, 8), 5, 3);
+        over(Check.mode(5, 0) + Check.task(1, 20, 3, 9), 5, 0);
+        over(Check.mode(5, 0) + Check.task(1, 20, 3, 8) + Check.task(0, 20, 20, 20), 5, 3);
+        over(Check.mode(5, 0) + Check.task(1, 20, 3, 8) + Check.task(0, 20, 21, 20), 5, 4);
+    }
+
     /** If it just FITS, all FRAMES and none have the same OVER of 0: none are the fewest. */
     static void promise13_none() {
         cut(Check.mode(4, 0) + Check.task(0, 8, 8, 8), 4, 0, 0, 0);
