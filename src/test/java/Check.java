@@ -3,6 +3,7 @@ import java.lang.reflect.Method;
 import java.util.Map;
 import java.util.NoSuchElementException;
 import java.util.TreeMap;
+import java.util.function.Supplier;
 
 /** What the project's tests share: counting wrong answers, and PLANS told as texts. */
 final class Check {
@@ -49,6 +50,21 @@ final class Check {
             threw = true;
         }
         due(what + " throws", threw, true);
+    }
+
+    /** A call of any type, and its answer as it is written; NoSuchElementException is one, too. */
+    void answers(String what, Supplier<Object> call, String want) {
+        String got;
+        try {
+            got = String.valueOf(call.get());
+        } catch (NoSuchElementException e) {
+            got = "throws NoSuchElementException";
+        }
+        asked++;
+        if (!got.equals(want)) {
+            wrong++;
+            System.out.println(name + ": " + what + " answered " + got + ", due is " + want);
+        }
     }
 
     /** The tests of a class: its methods whose names begin with a promise's number. */

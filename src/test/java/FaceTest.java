@@ -98,13 +98,10 @@ public final class FaceTest {
         CHECK.due("few classes", FrameRound.class.getDeclaredClasses().length <= 12, true);
     }
 
-    /** Words that the program must not have; the script that runs the tests says where it is. */
+    /** Words that the program must not have; the script that runs the tests says where the project is. */
     private static void source() throws IOException {
-        String path = System.getenv("FRAMEROUND_SOURCE");
-        if (path == null) {
-            path = "src/main/java/FrameRound.java";
-        }
-        String text = Files.readString(Path.of(path), StandardCharsets.US_ASCII);
+        Path home = Path.of(System.getenv().getOrDefault("FRAMEROUND_HOME", "."));
+        String text = Files.readString(home.resolve("src/main/java/FrameRound.java"), StandardCharsets.US_ASCII);
         String[] never = {"package ", "catch", "finally", "synchronized", "assert", "->", "::", "Exact", "Float.",
             "Double.", "System.out", "nanoTime", "Random", "getMessage", "instanceof", "+=\"", "@"};
         for (String word : never) {
