@@ -15,6 +15,8 @@ final class ReadmeExample {
     private static final String CLASS_LINE = "public final class Example {";
     private static final String MAIN_LINE = "    public static void main(String[] args) {";
     private static final String MAIN_END = "    }";
+    /** Without it no wrong answer would fail the run. */
+    private static final String END_LINE = "        CHECK.end();";
     /** A statement, blanks, and its answer up to a colon or the end. */
     private static final Pattern TOLD = Pattern.compile("(.*?);\\s+// ([^:]+?)(:.*)?", Pattern.DOTALL);
     private static final Pattern MAKES_OBJECT = Pattern.compile("FrameRound \\w+ = new FrameRound\\(\\);");
@@ -44,7 +46,7 @@ final class ReadmeExample {
         for (String line : example) {
             if (isMain && line.equals(MAIN_END)) {
                 isMain = false;
-                out.add("        CHECK.end();");
+                out.add(END_LINE);
             }
             boolean isRemark = line.isBlank() || line.strip().startsWith("//");
             if (!isMain || isRemark) {
@@ -60,6 +62,9 @@ final class ReadmeExample {
                 out.add("    private static final Check CHECK = new Check(\"README.md\");");
             }
             isMain |= line.equals(MAIN_LINE);
+        }
+        if (!out.contains(END_LINE)) {
+            throw new IllegalStateException("README.md's example has no main that begins and ends as expected");
         }
         return out;
     }
